@@ -221,9 +221,7 @@ public final class DryingKiln {
     }
 
     public int clearStages() {
-        int removed = schedule.size;
-        schedule.size = 0;
-        return removed;
+        return schedule.clear();
     }
 
     public int currentStage() {
@@ -279,15 +277,14 @@ public final class DryingKiln {
     }
 
     private int scheduledInlet() {
-        int stage = currentStage();
-        return stage == NONE ? settings.humidity : schedule.inletOf(stage, settings.humidity);
+        return schedule.inletOf(currentStage(), settings.humidity);
     }
 
     /** Writes the inlet moistures into plan; answers the number of hours, or NONE if they are too many. */
     private int makePlan(int target) {
         planned.copyFrom(load);
         int hours = 0;
-        while (hours < MAX_PLANNED_HOURS && hours < plan.length && planned.isWetterThan(target)) {
+        while (hours < plan.length && planned.isWetterThan(target)) {
             int inlet = chooseInlet();
             plan[hours] = inlet;
             if (inlet == REST) {
@@ -510,21 +507,30 @@ public final class DryingKiln {
 
     /** Stages with falling thresholds. */
     private static final class Schedule {
-        int size = 0;
         private final int[] thresholds = new int[MAX_STAGES];
         private final int[] inlets = new int[MAX_STAGES];
+        private int size = 0;
 
         int append(int threshold, int inlet) {
-            if (size > 0 && size <= MAX_STAGES && threshold >= thresholds[size - 1]) {
+            int before = size - 1;
+            if (before >= 0 && before < MAX_STAGES && threshold >= thresholds[before]) {
                 return BAD_VALUE;
             }
-            if (size < 0 || size >= MAX_STAGES) {
+            int stage = size;
+            if (stage < 0 || stage >= MAX_STAGES) {
                 return FULL;
             }
-            thresholds[size] = threshold;
-            inlets[size] = inlet;
+            thresholds[stage] = threshold;
+            inlets[stage] = inlet;
             size++;
-            return size - 1;
+            return stage;
+        }
+
+        /** Answers how many stages there were. */
+        int clear() {
+            int removed = size;
+            size = 0;
+            return removed;
         }
 
         /** The thresholds fall, so the last one that is great enough is the lowest. */
@@ -538,8 +544,9 @@ public final class DryingKiln {
             return stage;
         }
 
+        /** NONE is no stage either. */
         int inletOf(int stage, int otherwise) {
-            return stage >= 0 && stage < size && stage < MAX_STAGES ? inlets[stage] : otherwise;
+            return stage >= 0 && stage < MAX_STAGES ? inlets[stage] : otherwise;
         }
     }
 }

@@ -131,6 +131,8 @@ public final class BoardsTest {
         Due.is("strain without boards", x.strain(0), Due.NO_SUCH_BOARD);
         x.addBoard(4, 100);
         Due.is("strain of equal layers", x.strain(0), 0);
+        x.addBoard(3, 0);
+        Due.is("strain of a dry board", x.strain(1), 0);
         x.setLayer(0, 2, 40);
         Due.is("a dry inner layer is no strain", x.strain(0), 0);
         x.setLayer(0, 1, 150);
@@ -141,7 +143,7 @@ public final class BoardsTest {
         Due.is("the bottom is the drier face", x.strain(0), 130);
         x.setLayer(0, 0, 700);
         Due.is("the wettest layer is a face", x.strain(0), 680);
-        for (int board : new int[] {-1, 1, LEAST, MOST}) {
+        for (int board : new int[] {-1, 2, LEAST, MOST}) {
             Due.is("strain(" + board + ")", x.strain(board), Due.NO_SUCH_BOARD);
         }
     }

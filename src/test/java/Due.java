@@ -7,6 +7,8 @@ final class Due {
     static final int NONE = -1000005;
     static final int REST = -1000006;
 
+    private static final int MOST_TOLD = 40;
+
     private static int asked = 0;
     private static int wrong = 0;
 
@@ -17,7 +19,9 @@ final class Due {
         asked++;
         if (got != want) {
             wrong++;
-            System.out.println(call + " answered " + got + ", due is " + want);
+            if (wrong <= MOST_TOLD) {
+                System.out.println(call + " answered " + got + ", due is " + want);
+            }
         }
     }
 
