@@ -1,10 +1,15 @@
 import java.util.List;
 import java.util.Random;
 
-/** Random runs of calls, with a fixed seed, on DryingKiln and on the reference; every answer is compared. */
+/**
+ * Random runs of calls, with a fixed seed, on DryingKiln and on the reference; every answer is compared. A run stays
+ * within the 512 calls that the document promises answers for.
+ */
 public final class ModelTest {
-    private static final int RUNS = 400;
-    private static final int CALLS = 120;
+    private static final int RUNS = 1000;
+    private static final int PROMISED_CALLS = 512;
+    /** A change and two looks take fewer calls than are left from here. */
+    private static final int LAST_CHANGE = 300;
 
     private final Random random;
     private final DryingKiln kiln = new DryingKiln();
@@ -12,6 +17,7 @@ public final class ModelTest {
     private final String name;
     /** Some runs ask for extreme moistures and settings only. */
     private final boolean extreme;
+    private int calls = 0;
 
     private ModelTest(int run) {
         random = new Random(run);
@@ -22,12 +28,22 @@ public final class ModelTest {
     public static void main(String[] args) {
         for (int run = 0; run < RUNS; run++) {
             ModelTest test = new ModelTest(run);
-            for (int call = 0; call < CALLS; call++) {
-                test.change(call);
-                test.look();
+            for (int change = 0; test.calls < LAST_CHANGE; change++) {
+                test.change(change);
+                test.glance();
+                if (test.random.nextInt(12) == 0) {
+                    test.look();
+                }
             }
+            test.look();
+            Due.holds(test.name + "stays within the promised calls", test.calls <= PROMISED_CALLS);
         }
         Due.finish();
+    }
+
+    private void same(String call, long got, long want) {
+        calls++;
+        Due.is(name + call, got, want);
     }
 
     /** Mostly inside the range, sometimes on or just outside its ends. */
@@ -49,8 +65,8 @@ public final class ModelTest {
         return least <= value && value <= most;
     }
 
-    private void change(int call) {
-        int kind = call < 3 ? 0 : random.nextInt(16);
+    private void change(int number) {
+        int kind = number < 3 ? 0 : random.nextInt(16);
         switch (kind) {
             case 0: addBoard(); break;
             case 1: case 2: case 3: setLayer(); break;
@@ -80,7 +96,7 @@ public final class ModelTest {
             model.checks.add((long) Due.NONE);
             model.airs.add((long) Due.NONE);
         }
-        Due.is(name + "addBoard(" + layers + ", " + moisture + ")", kiln.addBoard(layers, moisture), want);
+        same("addBoard(" + layers + ", " + moisture + ")", kiln.addBoard(layers, moisture), want);
     }
 
     private void setLayer() {
@@ -98,7 +114,7 @@ public final class ModelTest {
             want = model.boards.get(board)[layer];
             model.boards.get(board)[layer] = moisture;
         }
-        Due.is(name + "setLayer", kiln.setLayer(board, layer, moisture), want);
+        same("setLayer", kiln.setLayer(board, layer, moisture), want);
     }
 
     private void setSetting() {
@@ -109,38 +125,38 @@ public final class ModelTest {
             case 0:
                 value = around(1, 250);
                 if (in(value, 1, 250)) { want = model.diffusion; model.diffusion = value; }
-                Due.is(name + "setDiffusion", kiln.setDiffusion(value), want);
+                same("setDiffusion", kiln.setDiffusion(value), want);
                 break;
             case 1:
                 value = around(1, 500);
                 if (in(value, 1, 500)) { want = model.surface; model.surface = value; }
-                Due.is(name + "setSurface", kiln.setSurface(value), want);
+                same("setSurface", kiln.setSurface(value), want);
                 break;
             case 2:
                 value = random.nextBoolean() ? around(1, 10000) : around(1, 60);
                 if (in(value, 1, 10000)) { want = model.capacity; model.capacity = value; }
-                Due.is(name + "setCapacity", kiln.setCapacity(value), want);
+                same("setCapacity", kiln.setCapacity(value), want);
                 break;
             case 3:
                 value = around(20, 900);
                 if (in(value, 20, 900)) { want = model.limit; model.limit = value; }
-                Due.is(name + "setStrainLimit", kiln.setStrainLimit(value), want);
+                same("setStrainLimit", kiln.setStrainLimit(value), want);
                 break;
             case 4:
                 value = around(0, 300);
                 if (in(value, 0, 300)) { want = model.humidity; model.humidity = value; }
-                Due.is(name + "setHumidity", kiln.setHumidity(value), want);
+                same("setHumidity", kiln.setHumidity(value), want);
                 break;
             default:
                 value = random.nextBoolean() ? around(0, 48) : around(0, 4);
                 if (in(value, 0, 48)) { want = model.period; model.period = value; }
-                Due.is(name + "setReversalPeriod", kiln.setReversalPeriod(value), want);
+                same("setReversalPeriod", kiln.setReversalPeriod(value), want);
         }
     }
 
     private void setFan() {
         boolean reversed = random.nextBoolean();
-        Due.is(name + "setFan", kiln.setFan(reversed), model.reversed == reversed ? 0 : 1);
+        same("setFan", kiln.setFan(reversed), model.reversed == reversed ? 0 : 1);
         model.reversed = reversed;
     }
 
@@ -153,9 +169,9 @@ public final class ModelTest {
             want += drying ? given : 0;
         }
         if (drying) {
-            Due.is(name + "dry(" + hours + ")", kiln.dry(hours), want);
+            same("dry(" + hours + ")", kiln.dry(hours), want);
         } else {
-            Due.is(name + "rest(" + hours + ")", kiln.rest(hours), want + checked() - before);
+            same("rest(" + hours + ")", kiln.rest(hours), want + checked() - before);
         }
     }
 
@@ -180,11 +196,11 @@ public final class ModelTest {
         } else {
             model.stages.add(new long[] {threshold, inlet});
         }
-        Due.is(name + "addStage", kiln.addStage(threshold, inlet), want);
+        same("addStage", kiln.addStage(threshold, inlet), want);
     }
 
     private void clearStages() {
-        Due.is(name + "clearStages", kiln.clearStages(), model.stages.size());
+        same("clearStages", kiln.clearStages(), model.stages.size());
         model.stages.clear();
     }
 
@@ -193,25 +209,32 @@ public final class ModelTest {
         int most = around(1, 200);
         boolean fine = in(target, 0, 2000) && in(most, 1, 200);
         long want = fine ? model.runSchedule(target, most) : Due.BAD_VALUE;
-        Due.is(name + "runSchedule(" + target + ", " + most + ")", kiln.runSchedule(target, most), want);
+        same("runSchedule(" + target + ", " + most + ")", kiln.runSchedule(target, most), want);
     }
 
     private void plan() {
         int target = random.nextInt(4) == 0 ? around(0, 2000) : around(0, 400);
         if (!in(target, 0, 2000)) {
-            Due.is(name + "plannedHours(" + target + ")", kiln.plannedHours(target), Due.BAD_VALUE);
-            Due.is(name + "plannedInlet(" + target + ", 0)", kiln.plannedInlet(target, 0), Due.BAD_VALUE);
+            same("plannedHours(" + target + ")", kiln.plannedHours(target), Due.BAD_VALUE);
+            same("plannedInlet(" + target + ", 0)", kiln.plannedInlet(target, 0), Due.BAD_VALUE);
             return;
         }
         List<Long> inlets = model.plan(target, 300);
         boolean tooLong = inlets.size() > 300;
-        Due.is(name + "plannedHours(" + target + ")", kiln.plannedHours(target), tooLong ? Due.NONE : inlets.size());
+        same("plannedHours(" + target + ")", kiln.plannedHours(target), tooLong ? Due.NONE : inlets.size());
         int step = 1 + inlets.size() / 10;
         for (int hour = -1; hour <= inlets.size(); hour += step) {
             long want = tooLong || hour >= inlets.size() ? Due.NONE : hour < 0 ? Due.BAD_VALUE : inlets.get(hour);
             want = hour < 0 ? Due.BAD_VALUE : want;
-            Due.is(name + "plannedInlet(" + target + ", " + hour + ")", kiln.plannedInlet(target, hour), want);
+            same("plannedInlet(" + target + ", " + hour + ")", kiln.plannedInlet(target, hour), want);
         }
+    }
+
+    private void glance() {
+        same("hour()", kiln.hour(), model.hour);
+        same("evaporated()", kiln.evaporated(), model.evaporated);
+        same("isFanReversed()", kiln.isFanReversed(), model.reversed ? 1 : 0);
+        same("currentStage()", kiln.currentStage(), model.stage());
     }
 
     private void look() {
@@ -221,24 +244,20 @@ public final class ModelTest {
             long[] m = model.boards.get(b);
             for (int i = 0; i < m.length; i++) {
                 water += m[i];
-                Due.is(name + "layerMoisture(" + b + ", " + i + ")", kiln.layerMoisture(b, i), m[i]);
+                same("layerMoisture(" + b + ", " + i + ")", kiln.layerMoisture(b, i), m[i]);
             }
-            Due.is(name + "averageMoisture(" + b + ")", kiln.averageMoisture(b), ReferenceKiln.average(m));
-            Due.is(name + "strain(" + b + ")", kiln.strain(b), ReferenceKiln.strain(m));
-            Due.is(name + "checkHour(" + b + ")", kiln.checkHour(b), model.checks.get(b));
-            Due.is(name + "airMoisture(" + b + ")", kiln.airMoisture(b), model.airs.get(b));
+            same("averageMoisture(" + b + ")", kiln.averageMoisture(b), ReferenceKiln.average(m));
+            same("strain(" + b + ")", kiln.strain(b), ReferenceKiln.strain(m));
+            same("checkHour(" + b + ")", kiln.checkHour(b), model.checks.get(b));
+            same("airMoisture(" + b + ")", kiln.airMoisture(b), model.airs.get(b));
             if (wettest < 0 || ReferenceKiln.average(m) > ReferenceKiln.average(model.boards.get(wettest))) {
                 wettest = b;
             }
         }
-        Due.is(name + "wettestBoard()", kiln.wettestBoard(), wettest);
-        Due.is(name + "totalWater()", kiln.totalWater(), water);
-        Due.is(name + "hour()", kiln.hour(), model.hour);
-        Due.is(name + "evaporated()", kiln.evaporated(), model.evaporated);
-        Due.is(name + "isFanReversed()", kiln.isFanReversed(), model.reversed ? 1 : 0);
-        Due.is(name + "currentStage()", kiln.currentStage(), model.stage());
+        same("wettestBoard()", kiln.wettestBoard(), wettest);
+        same("totalWater()", kiln.totalWater(), water);
         int sample = random.nextInt(1 << Math.min(7, model.boards.size() + 1));
-        Due.is(name + "sampleError(" + sample + ")", kiln.sampleError(sample), sampleError(sample));
+        same("sampleError(" + sample + ")", kiln.sampleError(sample), sampleError(sample));
     }
 
     private long sampleError(int sample) {

@@ -68,43 +68,33 @@ public final class RobustnessTest {
         Due.is("calls that threw", thrown, 0);
     }
 
-    /** All that can be read of a kiln; the settings are read by setting them to what they are. */
-    private static String picture(DryingKiln x) {
-        StringBuilder s = new StringBuilder();
-        for (int b = 0; b < 6; b++) {
-            for (int i = 0; i < 9; i++) {
-                s.append(x.layerMoisture(b, i)).append(' ');
-            }
-            s.append(x.checkHour(b)).append(' ').append(x.airMoisture(b)).append(' ');
-        }
-        int[] settings = {x.setDiffusion(1), x.setSurface(1), x.setCapacity(1), x.setStrainLimit(20), x.setHumidity(0), x.setReversalPeriod(0)};
-        x.setDiffusion(settings[0]);
-        x.setSurface(settings[1]);
-        x.setCapacity(settings[2]);
-        x.setStrainLimit(settings[3]);
-        x.setHumidity(settings[4]);
-        x.setReversalPeriod(settings[5]);
-        for (int setting : settings) {
-            s.append(setting).append(' ');
-        }
-        s.append(x.hour()).append(' ').append(x.evaporated()).append(' ').append(x.isFanReversed());
-        return s.append(' ').append(x.currentStage()).toString();
+    private static boolean isChange(int which) {
+        return which < 2 || which >= 9 && which <= 14 || which >= 16 && which <= 18 || which >= 22 && which <= 25 && which != 24;
     }
 
+    /** Two kilns get the same wild calls, and one of them a last one that is refused or only reads. */
     private static void errorsChangeNothing() {
-        Random random = new Random(11);
-        for (int run = 0; run < 60; run++) {
-            DryingKiln x = new DryingKiln();
-            for (int i = 0; i < 512; i++) {
-                int which = random.nextInt(28);
-                String before = picture(x);
-                int answer = call(x, which, wild(random), wild(random), wild(random));
-                boolean changes = which < 2 || which >= 9 && which <= 14 || which >= 16 && which <= 18 || which >= 22 && which <= 25 && which != 24;
-                if (!changes || answer <= -1000001) {
-                    Due.holds("run " + run + ": method " + which + " answered " + answer + " and changed nothing", before.equals(picture(x)));
-                }
+        int refused = 0;
+        for (int run = 0; run < 3000; run++) {
+            Random random = new Random(run);
+            DryingKiln asked = new DryingKiln();
+            DryingKiln spared = new DryingKiln();
+            int calls = random.nextInt(240);
+            for (int i = 0; i < calls; i++) {
+                int which = random.nextInt(26);
+                int a = wild(random);
+                int b = wild(random);
+                int c = wild(random);
+                Due.is("the same call of both", call(asked, which, a, b, c), call(spared, which, a, b, c));
+            }
+            int which = random.nextInt(28);
+            int answer = call(asked, which, wild(random), wild(random), wild(random));
+            if (!isChange(which) || answer <= DryingKiln.NO_SUCH_BOARD) {
+                refused++;
+                Refusal.same("run " + run + ": method " + which + ", which answered " + answer + ",", asked, spared);
             }
         }
+        Due.holds("many calls were refused: " + refused, refused > 1000);
     }
 
     private static void aRunMakesFewObjects() {
