@@ -9,6 +9,7 @@ public final class ScheduleEdgesTest {
         addStageLessThanTheStageBefore();
         addStageUpToEight();
         addStageBadValueBeforeFull();
+        addStageAfterAnEighthOf0();
         addStageRefusedChangesNothing();
         clearStagesEmptyAndFull();
         clearStagesLeavesTheRest();
@@ -89,6 +90,20 @@ public final class ScheduleEdgesTest {
         for (int[] b : bad) {
             String name = "full schedule: addStage(" + b[0] + ", " + b[1] + ")";
             Refusal.is(name, Kilns::fillSchedule, x -> x.addStage(b[0], b[1]), Due.BAD_VALUE);
+        }
+    }
+
+    /** No threshold is less than 0, so the room that is missing is never told of. */
+    private static void addStageAfterAnEighthOf0() {
+        for (int threshold : new int[] {0, 1, 7, 2000, -1, 2001}) {
+            String name = "an eighth stage of 0: addStage(" + threshold + ", 0)";
+            Refusal.is(name, ScheduleEdgesTest::fillDownTo0, x -> x.addStage(threshold, 0), Due.BAD_VALUE);
+        }
+    }
+
+    private static void fillDownTo0(DryingKiln x) {
+        for (int i = 0; i < 8; i++) {
+            Due.is("stage " + i + " of eight down to 0", x.addStage(7 - i, i), i);
         }
     }
 
